@@ -1,0 +1,200 @@
+import com.sun.management.ThreadMXBean;
+import java.io.IOException;
+import java.lang.management.ManagementFactory;
+import java.lang.reflect.Constructor;
+import java.lang.reflect.Field;
+import java.lang.reflect.Method;
+import java.lang.reflect.Modifier;
+import java.nio.file.Files;
+import java.nio.file.Path;
+import java.util.ArrayList;
+import java.util.Arrays;
+import java.util.List;
+import java.util.Set;
+import java.util.TreeSet;
+import java.util.regex.Matcher;
+import java.util.regex.Pattern;
+import java.util.stream.Collectors;
+
+/** The rules of ../shared/LANGUAGE.md that can be seen from outside, and the document's face. */
+public final class RulesTest {
+  private static final Check CHECK = new Check("RulesTest");
+  private static final Set<String> LIBRARY = Set.of("Arrays.fill", "System.arraycopy", "Math.abs",
+      "Math.max", "Math.min", "Math.floorMod", "Integer.MAX_VALUE", "Integer.MIN_VALUE",
+      "Long.MAX_VALUE");
+
+  public static void main(String[] args) throws IOException {
+    String source = Files.readString(Path.of("src/main/java/SettledDots.java"));
+    String document = Files.readString(Path.of("../shared/DOC.md"));
+    face(document);
+    membersOfClasses();
+    words(withoutComments(source));
+    library(withoutComments(source));
+    lengths(source);
+    room();
+    CHECK.close();
+  }
+
+  private static void holds(String rule, boolean held) {
+    CHECK.due(rule, held, true);
+  }
+
+  private static void face(String document) {
+    Set<String> promised = new TreeSet<>();
+    Matcher line = Pattern.compile("(?m)^    public (int|boolean) (\\w+)\\((.*)\\);").matcher(document);
+    while (line.find()) {
+      String types = line.group(3).replaceAll("(int|boolean) \\w+", "$1");
+      promised.add(line.group(1) + " " + line.group(2) + "(" + types + ")");
+    }
+    Set<String> there = new TreeSet<>();
+    for (Method m : SettledDots.class.getDeclaredMethods()) {
+      if (!Modifier.isPrivate(m.getModifiers())) {
+        holds("rule 1: " + m.getName() + " is public", Modifier.isPublic(m.getModifiers()));
+        there.add(m.getReturnType() + " " + m.getName() + "(" + Arrays.stream(m.getParameterTypes())
+            .map(Class::getName).collect(Collectors.joining(", ")) + ")");
+      }
+    }
+    holds("the face has all 43 methods, not " + promised.size(), promised.size() == 43);
+    holds("rule 1: " + there + " is the face " + promised, there.equals(promised));
+    holds("rule 1: the class is public and final",
+        Modifier.isPublic(SettledDots.class.getModifiers())
+            && Modifier.isFinal(SettledDots.class.getModifiers()));
+    Constructor<?>[] constructors = SettledDots.class.getDeclaredConstructors();
+    holds("rule 1: one public constructor", constructors.length == 1
+        && Modifier.isPublic(constructors[0].getModifiers())
+        && constructors[0].getParameterCount() == 0);
+    for (Field f : SettledDots.class.getDeclaredFields()) {
+      holds("rule 1: the field " + f.getName() + " is private or NONE",
+          Modifier.isPrivate(f.getModifiers()) || f.getName().equals("NONE"));
+    }
+  }
+
+  private static void membersOfClasses() {
+    Set<String> face = new TreeSet<>();
+    for (Method m : SettledDots.class.getDeclaredMethods()) {
+      if (Modifier.isPublic(m.getModifiers())) {
+        face.add(m.getName());
+      }
+    }
+    List<Class<?>> classes = new ArrayList<>(List.of(SettledDots.class.getDeclaredClasses()));
+    for (Class<?> c : classes) {
+      holds("rule 2: " + c.getName() + " is static", Modifier.isStatic(c.getModifiers()));
+      holds("rule 2: nothing is nested in " + c.getName(), c.getDeclaredClasses().length == 0);
+    }
+    classes.add(SettledDots.class);
+    holds("rule 11: twelve classes at most", classes.size() <= 12);
+    for (Class<?> c : classes) {
+      int fields = 0;
+      for (Field f : c.getDeclaredFields()) {
+        if (Modifier.isStatic(f.getModifiers())) {
+          holds("rule 5: " + c.getName() + "." + f.getName() + " is final",
+              Modifier.isFinal(f.getModifiers()));
+        } else {
+          fields++;
+        }
+      }
+      holds("rule 11: " + c.getName() + " has twenty fields at most", fields <= 20);
+      for (Method m : c.getDeclaredMethods()) {
+        String name = c.getName() + "." + m.getName();
+        holds("rule 11: " + name + " has seven parameters at most", m.getParameterCount() <= 7);
+        holds("rule 1: " + name + " bears no public name", face.contains(m.getName())
+            == (c == SettledDots.class && Modifier.isPublic(m.getModifiers())));
+      }
+    }
+  }
+
+  private static String withoutComments(String source) {
+    return source.replaceAll("(?s)/\\*.*?\\*/", "").replaceAll("//[^\n]*", "");
+  }
+
+  private static void words(String code) {
+    for (String word : List.of("throw", "throws", "try", "catch", "finally", "synchronized", "assert",
+        "float", "double", "var", "native", "volatile", "transient", "protected", "package",
+        "Object", "Random", "Thread", "equals", "hashCode", "toString")) {
+      holds("rules 2 to 6: no " + word, !Pattern.compile("\\b" + word + "\\b").matcher(code).find());
+    }
+    holds("rule 2: no lambda", !code.contains("->"));
+    holds("rule 2: no method reference", !code.contains("::"));
+    holds("rule 5: no static block", !Pattern.compile("static\\s*\\{").matcher(code).find());
+    holds("rule 10: no texts joined by +", !Pattern.compile("\"\\s*\\+|\\+\\s*\"").matcher(code).find());
+    holds("rule 4: signs are 1 to 127", code.chars().allMatch(c -> c >= 1 && c <= 127));
+    holds("rule 9: no loop without a condition",
+        !Pattern.compile("while \\(true\\)|for \\([^;]*;\\s*;").matcher(code).find());
+  }
+
+  private static void library(String code) {
+    Matcher used = Pattern.compile("\\b(Arrays|System|Math|Integer|Long|String|Character)\\.(\\w+)")
+        .matcher(code);
+    while (used.find()) {
+      String name = used.group();
+      holds("rule 4: " + name + " is in the library", LIBRARY.contains(name));
+    }
+    Matcher imports = Pattern.compile("import ([\\w.]+);").matcher(code);
+    while (imports.find()) {
+      holds("rule 4: imports " + imports.group(1), imports.group(1).equals("java.util.Arrays"));
+    }
+    Matcher made = Pattern.compile("new (\\w+)").matcher(code);
+    while (made.find()) {
+      holds("rule 3: makes a " + made.group(1), made.group(1).matches(
+          "int|long|boolean|Scene|Field|Reader|Past|Track|Ahead|Prices|Links|Box"));
+    }
+  }
+
+  private static void lengths(String source) {
+    String[] lines = source.split("\n");
+    Pattern head = Pattern.compile("^( {4}| {8})(?! )[\\w\\[\\]. ]+\\([^;]*\\{$");
+    for (int i = 0; i < lines.length; i++) {
+      holds("line " + (i + 1) + " has 110 signs at most", lines[i].length() <= 110);
+      Matcher m = head.matcher(lines[i]);
+      if (m.find() && !lines[i].contains(" for ") && !lines[i].contains(" if ")) {
+        int end = i;
+        while (!lines[end].equals(m.group(1) + "}")) {
+          end++;
+        }
+        holds("rule 11: sixty lines at most:" + lines[i], end - i < 60);
+      }
+    }
+  }
+
+  /** All calls of a run live in one room, so that calls must make next to nothing. */
+  private static void room() {
+    ThreadMXBean threads = (ThreadMXBean) ManagementFactory.getThreadMXBean();
+    long me = Thread.currentThread().getId();
+    longRun(new SettledDots());
+    long start = threads.getThreadAllocatedBytes(me);
+    SettledDots dots = new SettledDots();
+    long made = threads.getThreadAllocatedBytes(me);
+    longRun(dots);
+    long called = threads.getThreadAllocatedBytes(me);
+    holds("rule 12: an object has 200 KB at most, not " + (made - start), made - start < 200_000);
+    holds("rule 12: calls make 4 KB at most, not " + (called - made), called - made < 4_000);
+  }
+
+  private static void longRun(SettledDots dots) {
+    for (int i = 0; i < 400; i++) {
+      dots.paint(i * 7 % 8, i / 8 % 8, i % 9);
+      dots.draw(1);
+      dots.rounds(100);
+      dots.till(0);
+      dots.best(i % 3, 0);
+      dots.more(0);
+      dots.idle();
+      dots.way(0, i % 5);
+      dots.dot(i % 4, 7);
+      dots.uneven(3, 1);
+      dots.due(4);
+      dots.near(i % 8, 0, i % 6);
+      dots.adapt(1, 30);
+      dots.turn();
+      dots.undo();
+      dots.redo();
+      dots.image(i % 2);
+      dots.against(0, 0);
+      dots.back(i % 2);
+      dots.feed(0x646f7420, 0x3020303b, 0x646f7420, 0x3120313b, 0x20202020);
+      if (i % 50 == 0) {
+        dots.picture();
+      }
+    }
+  }
+}
