@@ -16,6 +16,9 @@ public final class SettledDots {
     private static final int ROUNDS_AT_MOST = 100;
     private static final int LOAD_AT_MOST = 9999;
     private static final int RADIUS_AT_MOST = 30;
+    private static final int NO_SQUARE = -2147483648;
+    /** Above every COST and every number that stands for how far two DOTS are apart. */
+    private static final int BOUNDLESS = 2147483647;
 
     private Scene now = new Scene();
     private final Field field = new Field();
@@ -161,7 +164,7 @@ public final class SettledDots {
         if (n < 1 || n > ROUNDS_AT_MOST || now.count == 0) {
             return NONE;
         }
-        survey();
+        upToDate();
         past.keep(now);
         ahead.forget();
         int made = 0;
@@ -180,7 +183,7 @@ public final class SettledDots {
         if (low < 0 || high < low || high > LOAD_AT_MOST) {
             return NONE;
         }
-        survey();
+        upToDate();
         int left = countLeft(low);
         int added = planAdded(left, low, high);
         if (left == now.count && added == 0) {
@@ -235,16 +238,15 @@ public final class SettledDots {
         if (!now.has(dot)) {
             return NONE;
         }
-        survey();
         switch (what) {
             case 0: return now.across[dot];
             case 1: return now.down[dot];
             case 2: return now.parts[dot];
-            case 3: return field.cells[dot];
-            case 4: return field.load[dot];
-            case 5: return field.bill[dot];
+            case 3: return upToDate().cells[dot];
+            case 4: return upToDate().load[dot];
+            case 5: return upToDate().bill[dot];
             case 6: return now.spotOf(dot);
-            case 7: return links.piecesOf(dot, now, field);
+            case 7: return links.piecesOf(dot, now, upToDate());
             default: return NONE;
         }
     }
@@ -254,12 +256,11 @@ public final class SettledDots {
         if (!now.holds(x, y)) {
             return NONE;
         }
-        survey();
         int number = now.numberOf(x, y);
         switch (what) {
             case 0: return now.weight[number];
-            case 1: return field.owner[number];
-            case 2: return field.cost[number];
+            case 1: return upToDate().owner[number];
+            case 2: return upToDate().cost[number];
             case 3: return now.spotsWithin(x, y, x, y);
             default: return NONE;
         }
@@ -311,8 +312,7 @@ public final class SettledDots {
         if (!now.holds(x, y) || now.count == 0) {
             return NONE;
         }
-        survey();
-        int owner = field.owner[now.numberOf(x, y)];
+        int owner = upToDate().owner[now.numberOf(x, y)];
         if (!now.has(owner)) {
             return NONE;
         }
@@ -326,7 +326,7 @@ public final class SettledDots {
         if (now.count < 2 || what < 0 || what > 2) {
             return NONE;
         }
-        long least = Long.MAX_VALUE;
+        long least = BOUNDLESS;
         int lesser = 0;
         int greater = 0;
         for (int i = 0; i < now.count; i++) {
@@ -351,7 +351,7 @@ public final class SettledDots {
         if (now.count == 0) {
             return NONE;
         }
-        survey();
+        upToDate();
         switch (what) {
             case 0: return field.load[firstGreatest(field.load)];
             case 1: return leastLoad();
@@ -366,7 +366,7 @@ public final class SettledDots {
         if (!now.holds(x, y) || now.count == 0) {
             return NONE;
         }
-        survey();
+        upToDate();
         int number = now.numberOf(x, y);
         int found = 0;
         for (int dot = 0; dot < now.count; dot++) {
@@ -409,8 +409,7 @@ public final class SettledDots {
         if (!now.has(dot) || what < 0 || what > 1) {
             return NONE;
         }
-        survey();
-        prices.leaveOut(dot, now, field);
+        prices.leaveOut(dot, now, upToDate());
         prices.findCheapest(now);
         return what == 0 ? prices.cheapestCell : prices.cheapestCost;
     }
@@ -422,13 +421,12 @@ public final class SettledDots {
         if (!now.has(dot)) {
             return NONE;
         }
-        survey();
         switch (what) {
-            case 0: return field.farthestOf(dot, now);
+            case 0: return upToDate().farthestOf(dot, now);
             case 1:
-                links.countCouples(now, field);
+                links.countCouples(now, upToDate());
                 return links.couplesOf(dot, now.count);
-            case 2: return field.cellsAtEdge(dot, now);
+            case 2: return upToDate().cellsAtEdge(dot, now);
             default: return NONE;
         }
     }
@@ -438,8 +436,7 @@ public final class SettledDots {
         if (!now.has(dot) || !now.has(other) || dot == other) {
             return NONE;
         }
-        survey();
-        links.countCouples(now, field);
+        links.countCouples(now, upToDate());
         return links.couplesOfTwo(dot, other);
     }
 
@@ -448,8 +445,7 @@ public final class SettledDots {
         if (!now.has(dot) || !now.has(other)) {
             return NONE;
         }
-        survey();
-        links.countCouples(now, field);
+        links.countCouples(now, upToDate());
         return links.fewestSteps(dot, other, now.count);
     }
 
@@ -458,7 +454,6 @@ public final class SettledDots {
         if (s < 0 || s >= SHADES) {
             return NONE;
         }
-        survey();
         switch (what) {
             case 0: return cellsOfShade(s);
             case 1: return spotsOfShade(s);
@@ -527,8 +522,7 @@ public final class SettledDots {
         if (!now.has(dot) || now.count < 2) {
             return NONE;
         }
-        survey();
-        prices.leaveOut(dot, now, field);
+        prices.leaveOut(dot, now, upToDate());
         return prices.sum(now) - field.total;
     }
 
@@ -537,11 +531,10 @@ public final class SettledDots {
         if (now.count < 2) {
             return NONE;
         }
-        survey();
         int found = 0;
-        int least = Integer.MAX_VALUE;
+        int least = BOUNDLESS;
         for (int dot = 0; dot < now.count; dot++) {
-            prices.leaveOut(dot, now, field);
+            prices.leaveOut(dot, now, upToDate());
             int without = prices.sum(now);
             if (without < least) {
                 least = without;
@@ -556,8 +549,7 @@ public final class SettledDots {
         if (now.count == 0 || what < 0 || what > 1) {
             return NONE;
         }
-        survey();
-        prices.leaveOut(NONE, now, field);
+        prices.leaveOut(NONE, now, upToDate());
         prices.findCheapest(now);
         return what == 0 ? prices.cheapestCell : prices.cheapestCost;
     }
@@ -579,7 +571,7 @@ public final class SettledDots {
     /** Promise 40. */
     public int uneven(int n, int what) {
         if (n < 1 || n > now.width || n > now.height || what < 0 || what > 1) {
-            return Integer.MIN_VALUE;
+            return NO_SQUARE;
         }
         int all = now.greyWithin(0, 0, now.width - 1, now.height - 1);
         int found = 0;
@@ -604,9 +596,8 @@ public final class SettledDots {
         if (!isBox(box) || !boxes[box].full || !boxes[box].scene.isAsLargeAs(now)) {
             return NONE;
         }
-        survey();
         switch (what) {
-            case 0: return boxes[box].otherOwners(now, field);
+            case 0: return boxes[box].otherOwners(now, upToDate());
             case 1: return boxes[box].otherWeights(now);
             case 2: return boxes[box].otherDots(now);
             default: return NONE;
@@ -618,8 +609,7 @@ public final class SettledDots {
         if (!isBox(box)) {
             return NONE;
         }
-        survey();
-        boxes[box].keep(now, field);
+        boxes[box].keep(now, upToDate());
         return now.count;
     }
 
@@ -635,13 +625,12 @@ public final class SettledDots {
 
     /** Promise 44. */
     public int about(int what) {
-        survey();
         switch (what) {
             case 0: return now.width;
             case 1: return now.height;
             case 2: return now.count;
             case 3: return now.greyWithin(0, 0, now.width - 1, now.height - 1);
-            case 4: return field.total;
+            case 4: return upToDate().total;
             case 5: return emptyDots();
             case 6: return now.grain;
             case 7: return past.undoable;
@@ -653,12 +642,13 @@ public final class SettledDots {
 
     // ---- helpers of the calls above ----
 
-    /** Brings the field up to date; acts only mark it as old, so that a row of acts stays cheap. */
-    private void survey() {
+    /** The field of the picture as it is; acts only mark it as old, so that a row of them is cheap. */
+    private Field upToDate() {
         if (!surveyed) {
             field.survey(now);
             surveyed = true;
         }
+        return field;
     }
 
     private void forgetWhatWasSeen() {
@@ -721,7 +711,7 @@ public final class SettledDots {
     }
 
     private int leastLoad() {
-        int least = Integer.MAX_VALUE;
+        int least = BOUNDLESS;
         for (int dot = 0; dot < now.count; dot++) {
             least = Math.min(least, field.load[dot]);
         }
@@ -731,7 +721,7 @@ public final class SettledDots {
     private int emptyDots() {
         int empty = 0;
         for (int dot = 0; dot < now.count; dot++) {
-            if (field.load[dot] == 0) {
+            if (upToDate().load[dot] == 0) {
                 empty++;
             }
         }
@@ -761,7 +751,7 @@ public final class SettledDots {
     private int ownersOfShade(int s) {
         int found = 0;
         for (int dot = 0; dot < now.count; dot++) {
-            if (field.ownsShade(dot, s, now)) {
+            if (upToDate().ownsShade(dot, s, now)) {
                 found++;
             }
         }
@@ -772,7 +762,7 @@ public final class SettledDots {
         int sum = 0;
         for (int number = 0; number < now.size(); number++) {
             if (now.weight[number] == s) {
-                sum += field.cost[number];
+                sum += upToDate().cost[number];
             }
         }
         return sum;
@@ -784,7 +774,7 @@ public final class SettledDots {
 
     /** COST of a CELL whose DISTANCE to its OWNER is gap / span. */
     private static int price(int weight, long gap, long span) {
-        return (int) divide(weight * 1000L * gap, span);
+        return span > 0 ? (int) (weight * 1000L * gap / span) : 0;
     }
 
     /** A picture: its CELLS' WEIGHTS, its DOTS, the seed. */
@@ -1241,7 +1231,7 @@ public final class SettledDots {
             if (weight == 0) {
                 return 0;
             }
-            int least = Integer.MAX_VALUE;
+            int least = BOUNDLESS;
             for (int other = 0; other < scene.count; other++) {
                 if (other != dot) {
                     int its = price(weight, scene.gap(other, x, y), scene.span(other));
@@ -1262,7 +1252,7 @@ public final class SettledDots {
         /** The first CELL at which one DOT more makes the sum of the costs least. */
         void findCheapest(Scene scene) {
             cheapestCell = 0;
-            cheapestCost = Integer.MAX_VALUE;
+            cheapestCost = BOUNDLESS;
             for (int y = 0; y < scene.height; y++) {
                 for (int x = 0; x < scene.width; x++) {
                     int sum = sumWithOneAt(x, y, scene);

@@ -20,8 +20,7 @@ import java.util.stream.Collectors;
 public final class RulesTest {
   private static final Check CHECK = new Check("RulesTest");
   private static final Set<String> LIBRARY = Set.of("Arrays.fill", "System.arraycopy", "Math.abs",
-      "Math.max", "Math.min", "Math.floorMod", "Integer.MAX_VALUE", "Integer.MIN_VALUE",
-      "Long.MAX_VALUE");
+      "Math.max", "Math.min", "Math.floorMod");
 
   public static void main(String[] args) throws IOException {
     String source = Files.readString(Path.of("src/main/java/SettledDots.java"));
