@@ -164,14 +164,14 @@ public final class SettledDots {
         if (n < 1 || n > ROUNDS_AT_MOST || now.count == 0) {
             return NONE;
         }
-        upToDate();
+        Field seen = upToDate();
         past.keep(now);
         ahead.forget();
         int made = 0;
         int moved = NONE;
         for (int i = 0; i < n && moved != 0; i++) {
-            int costAhead = field.total;
-            moved = field.round(now);
+            int costAhead = seen.total;
+            moved = seen.round(now);
             track.add(moved, costAhead);
             made++;
         }
@@ -183,16 +183,16 @@ public final class SettledDots {
         if (low < 0 || high < low || high > LOAD_AT_MOST) {
             return NONE;
         }
-        upToDate();
-        int left = countLeft(low);
-        int added = planAdded(left, low, high);
+        Field seen = upToDate();
+        int left = countLeft(seen, low);
+        int added = planAdded(seen, left, high);
         if (left == now.count && added == 0) {
             return NONE;
         }
         beginAct();
-        // From behind, so that the numbers still to be looked at stay what they were.
+        // By the LOADS from before; from behind, so that the numbers still to come stay right.
         for (int dot = now.count - 1; dot >= 0; dot--) {
-            if (field.load[dot] < low) {
+            if (seen.load[dot] < low) {
                 now.remove(dot);
             }
         }
@@ -351,12 +351,12 @@ public final class SettledDots {
         if (now.count == 0) {
             return NONE;
         }
-        upToDate();
+        Field seen = upToDate();
         switch (what) {
-            case 0: return field.load[firstGreatest(field.load)];
-            case 1: return leastLoad();
-            case 2: return firstGreatest(field.load);
-            case 3: return firstGreatest(field.bill);
+            case 0: return seen.load[firstGreatest(seen.load)];
+            case 1: return leastOf(seen.load);
+            case 2: return firstGreatest(seen.load);
+            case 3: return firstGreatest(seen.bill);
             default: return NONE;
         }
     }
@@ -366,11 +366,11 @@ public final class SettledDots {
         if (!now.holds(x, y) || now.count == 0) {
             return NONE;
         }
-        upToDate();
+        Field seen = upToDate();
         int number = now.numberOf(x, y);
         int found = 0;
         for (int dot = 0; dot < now.count; dot++) {
-            if (now.gap(dot, x, y) * field.span[number] == field.gap[number] * now.span(dot)) {
+            if (now.gap(dot, x, y) * seen.span[number] == seen.gap[number] * now.span(dot)) {
                 found++;
             }
         }
@@ -674,10 +674,10 @@ public final class SettledDots {
         return box >= 0 && box < BOXES;
     }
 
-    private int countLeft(int low) {
+    private int countLeft(Field seen, int low) {
         int left = 0;
         for (int dot = 0; dot < now.count; dot++) {
-            if (field.load[dot] >= low) {
+            if (seen.load[dot] >= low) {
                 left++;
             }
         }
@@ -685,13 +685,14 @@ public final class SettledDots {
     }
 
     /** Writes the CELLS of the DOTS to add into the plan; answers how many. */
-    private int planAdded(int left, int low, int high) {
+    private int planAdded(Field seen, int left, int high) {
         int added = 0;
         for (int dot = 0; dot < now.count && left + added < DOTS_AT_MOST; dot++) {
-            if (field.load[dot] < low || field.load[dot] <= high) {
+            // High is not below low: those above it are left.
+            if (seen.load[dot] <= high) {
                 continue;
             }
-            int worst = field.worstOf(dot, now);
+            int worst = seen.worstOf(dot, now);
             if (worst != NONE) {
                 plan[added] = worst;
                 added++;
@@ -710,10 +711,10 @@ public final class SettledDots {
         return found;
     }
 
-    private int leastLoad() {
+    private int leastOf(int[] ofDots) {
         int least = BOUNDLESS;
         for (int dot = 0; dot < now.count; dot++) {
-            least = Math.min(least, field.load[dot]);
+            least = Math.min(least, ofDots[dot]);
         }
         return least;
     }
