@@ -101,6 +101,7 @@ public final class PromiseTest {
     is("3: end(1)", dots.end(1), NONE);
     is("2: a row over five numbers",
         dots.feed(0x726f7720, 0x31323334, 0x35363738, 0x3b726f77, 0x20393b20), 20);
+    is("3: end of all there are", dots.end(20), 20);
     is("4: picture()", dots.picture(), 0);
     is("2: first weight", dots.cell(0, 0, 0), 1);
     is("2: eighth weight", dots.cell(7, 0, 0), 8);
@@ -258,6 +259,8 @@ public final class PromiseTest {
     is("7: dot 0 is the former 1", dots.dot(0, 0), 3);
     is("7: dot 1 is the former 2", dots.dot(1, 1), 6);
     is("7: an act", dots.about(7), 1);
+    is("15: the owners are those of three again", dots.undo() ? dots.cell(1, 2, 1) : NONE, 0);
+    is("16: and those of two", dots.redo() ? dots.cell(5, 6, 1) : NONE, 1);
     is("7: take(1)", dots.take(1), 1);
     is("7: take(0) again", dots.take(0), 0);
     is("7: take of none", dots.take(0), NONE);
@@ -383,6 +386,8 @@ public final class PromiseTest {
     is("13: low -1", dots.adapt(-1, 5), NONE);
     is("13: high 10000", dots.adapt(0, 10000), NONE);
     is("13: high below low", dots.adapt(3, 2), NONE);
+    is("13: high 10000, though some would be taken", dots.adapt(2, 10000), NONE);
+    is("13: low 10000, though all would be taken", dots.adapt(10000, 10000), NONE);
     is("13: nothing to do", dots.adapt(0, 9999), NONE);
     is("13: nothing to do at the bounds", dots.adapt(1, 10), NONE);
     is("13: no act", dots.about(7), 0);
@@ -622,6 +627,8 @@ public final class PromiseTest {
     is("22: ring(2, 1)", dots.ring(2, 1), 1);
     is("22: ring(4, 0)", dots.ring(4, 0), 2);
     is("22: ring(2, 0)", dots.ring(2, 0), 0);
+    is("22: further down than right", Check.of("dot 1 1;").ring(2, 7), 6);
+    is("22: further up than left", Check.of("dot 1 6;").ring(0, 1), 5);
     is("22: no such cell", dots.ring(5, 0), NONE);
     is("22: without dots", new SettledDots().ring(0, 0), NONE);
   }
@@ -725,6 +732,7 @@ public final class PromiseTest {
     is("30: no way", dots.way(0, 3), NONE);
     is("30: itself, though it owns none", dots.way(3, 3), 0);
     is("30: no such dot", dots.way(0, 4), NONE);
+    is("30: none such, one such", dots.way(4, 0), NONE);
     is("30: dot -1", dots.way(-1, -1), NONE);
   }
 
@@ -770,6 +778,22 @@ public final class PromiseTest {
     is("34: still", dots.till(0), 1);
     is("34: without dots", new SettledDots().till(0), NONE);
     is("34: without weights", Check.of("dot 0 0;").till(1), 0);
+    // A slope on which eleven dots have a long way to go.
+    StringBuilder slope = new StringBuilder("size 20 17;");
+    for (int y = 0; y < 17; y++) {
+      slope.append("row ");
+      for (int x = 0; x < 20; x++) {
+        slope.append(1 + (x * x + y * 3) % 7);
+      }
+      slope.append(";");
+    }
+    slope.append("dot 0 0;dot 0 1;dot 0 1;dot 2 0;dot 1 1;dot 2 1;dot 0 1;dot 2 0;dot 2 2;dot 2 2;");
+    dots = Check.of(slope.toString());
+    int rounds = dots.till(0);
+    int cost = dots.till(1);
+    is("34: a long way, as rounds() goes it", dots.rounds(100), rounds);
+    is("34: the cost then", dots.about(4), cost);
+    is("34: more than ten", rounds > 10, true);
   }
 
   private static void steps() {
@@ -815,6 +839,13 @@ public final class PromiseTest {
     is("36: loss(1)", dots.loss(1), 12000);
     is("36: loss(2)", dots.loss(2), 20000);
     is("37: idle()", dots.idle(), 0);
+    dots.move(1, 4, 0);
+    is("37: idle(), not the first", dots.idle(), 1);
+    dots.take(1);
+    // Both: 0 + 2 + 12 + 4 + 0 thousands; the right one alone: 16 + 18 + 12 + 4 + 0.
+    is("36: the left one of two", dots.loss(0), 32000);
+    is("36: the right one of two", dots.loss(1), 112000);
+    dots.undo();
     is("36: loss(3)", dots.loss(3), NONE);
     is("36: loss(-1)", dots.loss(-1), NONE);
     is("36: nothing is taken", dots.about(2), 3);
