@@ -1750,7 +1750,6 @@ public final class SettledDots {
                 kind = END;
                 return;
             }
-            boolean behindDigit = at > 0 && kindOf(bytes[at - 1]) == NUMBER;
             kind = kindOf(bytes[at]);
             at++;
             if (kind == WORD || kind == NUMBER) {
@@ -1758,10 +1757,14 @@ public final class SettledDots {
                     at++;
                 }
             }
-            if (kind == WORD && (behindDigit || at - start > LETTERS_AT_MOST)
-                || kind == NUMBER && at - start > DIGITS_AT_MOST) {
+            if (kind == WORD && at - start > LETTERS_AT_MOST
+                || kind == NUMBER && (at - start > DIGITS_AT_MOST || isAtLetter())) {
                 kind = NO_TOKEN;
             }
+        }
+
+        private boolean isAtLetter() {
+            return at < length && kindOf(bytes[at]) == WORD;
         }
 
         /** The kind of the TOKENS that a sign may begin. */

@@ -88,9 +88,10 @@ final class OracleReader {
   /** The token to come; that it is one at all is looked at before anything else is. */
   private String peek() throws Fault {
     String token = tokens.get(at);
-    boolean behindDigit = at > 0 && tokens.get(at - 1).matches("[0-9]+")
-        && places.get(at - 1) + tokens.get(at - 1).length() == places.get(at);
-    if (!token.matches("[a-z]{1,8}|[0-9]{1,20}|;|") || behindDigit && token.matches("[a-z]+")) {
+    // A letter is directly behind it if the next token is of letters and begins where it ends.
+    boolean letterBehind = at + 1 < tokens.size() && tokens.get(at + 1).matches("[a-z]+")
+        && places.get(at) + token.length() == places.get(at + 1);
+    if (!token.matches("[a-z]{1,8}|[0-9]{1,20}|;|") || letterBehind && token.matches("[0-9]+")) {
       throw new Fault(1, places.get(at));
     }
     return token;

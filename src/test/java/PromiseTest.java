@@ -9,6 +9,8 @@ public final class PromiseTest {
     tape();
     picture();
     faultsOfSigns();
+    faultsOfLettersBehindDigits();
+    faultsBehindTheEnd();
     faultsOfPlaces();
     faultsOfNumbers();
     faultsOfTooMany();
@@ -141,14 +143,10 @@ public final class PromiseTest {
     faultIs(" \n ", 0, NONE);
     faultIs("Row 1;", 1, 0);
     faultIs("\trow 1;", 1, 0);
-    faultIs("row 1A;", 1, 5);
     faultIs("row 1" + (char) 233, 1, 5);
     faultIs("row 1;" + (char) 0, 1, 6);
-    faultIs("row 1a;", 1, 5);
-    faultIs("row 1 a;", 2, 6);
     faultIs("row 1,2;", 1, 5);
     faultIs("row1;dot0 0;row\n2;", 0, NONE);
-    faultIs("dot 1 2dot 3 4;", 1, 7);
     // The reading that this project has of the lengths: a longer run is no token, at its start.
     faultIs("abcdefgh", 2, 0);
     faultIs("abcdefghi", 1, 0);
@@ -156,6 +154,42 @@ public final class PromiseTest {
     faultIs("size 20 1;row " + Check.digits(21, '1') + ";", 1, 14);
     faultIs("size " + Check.digits(20, '0') + ";", 4, 5);
     faultIs("size " + Check.digits(21, '0') + ";", 1, 5);
+  }
+
+  /** A number with a letter directly behind it is no token, at the number's first digit. */
+  private static void faultsOfLettersBehindDigits() {
+    faultIs("row 1a;", 1, 4);
+    faultIs("row 123a;", 1, 4);
+    faultIs("row1a;", 1, 3);
+    faultIs("dot 1 2dot 3 4;", 1, 6);
+    faultIs("size 8x8;", 1, 5);
+    faultIs("size 8 8row 1;", 1, 7);
+    faultIs("5a", 1, 0);
+    // At one place the least fault counts: over a number that can't be or can't stand there.
+    faultIs("dot 99a 0;", 1, 4);
+    faultIs("row 123456789a;", 1, 4);
+    faultIs("row 1 2a;", 1, 6);
+    faultIs("size 2 1;row 1;7z", 1, 15);
+    // The first place counts: what comes ahead of the digits is told.
+    faultIs("dot 99 0x", 4, 4);
+    faultIs("row 1;foo 1a;", 2, 6);
+    faultIs("size 2 1;row 1;row 1a;", 3, 15);
+    // A blank or another sign between them, or a capital, which no word has: another fault.
+    faultIs("row 1 a;", 2, 6);
+    faultIs("row 1\na;", 2, 6);
+    faultIs("row 1;a", 2, 6);
+    faultIs("row 1A;", 1, 5);
+    faultIs("row a1;", 2, 4);
+  }
+
+  /** Bytes that end() cut off are behind no digit. */
+  private static void faultsBehindTheEnd() {
+    SettledDots dots = new SettledDots();
+    Check.tape(dots, "row 1a");
+    is("3: end(5)", dots.end(5), 5);
+    is("4: 'row 1'", dots.picture(), NONE);
+    is("5: fault(0) of 'row 1'", dots.fault(0), 2);
+    is("5: fault(1) of 'row 1'", dots.fault(1), 5);
   }
 
   private static void faultsOfPlaces() {
@@ -202,7 +236,6 @@ public final class PromiseTest {
     faultIs("size 9 2;dot 8 2;", 4, 15);
     faultIs("dot 00000 0;", 4, 4);
     faultIs("dot 0000 0;", 0, NONE);
-    faultIs("dot 99 0x", 4, 4);
   }
 
   private static void faultsOfTooMany() {
