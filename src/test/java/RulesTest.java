@@ -9,7 +9,9 @@ import java.nio.file.Files;
 import java.nio.file.Path;
 import java.util.ArrayList;
 import java.util.Arrays;
+import java.util.Comparator;
 import java.util.List;
+import java.util.Random;
 import java.util.Set;
 import java.util.TreeSet;
 import java.util.regex.Matcher;
@@ -31,6 +33,7 @@ public final class RulesTest {
     library(withoutComments(source));
     lengths(source);
     room();
+    neverThrows();
     CHECK.close();
   }
 
@@ -151,6 +154,33 @@ public final class RulesTest {
           end++;
         }
         holds("rule 11: sixty lines at most:" + lines[i], end - i < 60);
+      }
+    }
+  }
+
+  /** Numbers at and beside all bounds of the document, in each place, on pictures from least to most. */
+  private static void neverThrows() {
+    int[] numbers = {Integer.MIN_VALUE, -2, -1, 0, 1, 2, 3, 7, 8, 9, 10, 12, 19, 20, 21, 30, 31, 39, 40,
+        41, 99, 100, 101, 200, 399, 400, 900, 901, 9999, 10000, Integer.MAX_VALUE};
+    Method[] face = Arrays.stream(SettledDots.class.getMethods())
+        .filter(m -> m.getDeclaringClass() == SettledDots.class)
+        .sorted(Comparator.comparing(Method::getName)).toArray(Method[]::new);
+    Random random = new Random(1);
+    for (String text : List.of("", "size 1 1;", "size 1 1;row 9;dot 0 0;", Boundary.LADEN,
+        "size20 20;" + ("row" + "9".repeat(20) + ";").repeat(20) + "dot19 19;".repeat(40))) {
+      for (int run = 0; run < 40; run++) {
+        SettledDots dots = Boundary.of(text);
+        for (int call = 0; call < 512; call++) {
+          Method m = face[random.nextInt(face.length)];
+          Object[] arguments = new Object[m.getParameterCount()];
+          Arrays.setAll(arguments, i -> numbers[random.nextInt(numbers.length)]);
+          try {
+            m.invoke(dots, arguments);
+          } catch (ReflectiveOperationException e) {
+            holds("rule 7: " + m.getName() + Arrays.toString(arguments) + " on '" + text + "' throws "
+                + e.getCause(), false);
+          }
+        }
       }
     }
   }
