@@ -144,6 +144,15 @@ final class Boundary {
     due(state(dots).equals(ahead), true);
   }
 
+  /** A question, whatever it answers. */
+  static void doesNothing(ToIntFunction<SettledDots> question) {
+    for (SettledDots dots : List.of(ladenWithSteps(), ladenWithRedo())) {
+      List<Integer> ahead = state(dots);
+      due(question.applyAsInt(dots) != NONE, true);
+      due(state(dots).equals(ahead), true);
+    }
+  }
+
   /** All that can be asked for that a call may change. */
   static List<Integer> state(SettledDots dots) {
     List<Integer> state = picture(dots);

@@ -136,6 +136,12 @@ final class CostBoundaries {
     Boundary.none(dots.best(0, -1), dots.best(0, 2), dots.best(0, LEAST), dots.best(0, MOST));
   }
 
+  @Sentence(BEST)
+  static void promise27BestDoesNothing() {
+    Boundary.doesNothing(d -> d.best(1, 0));
+    Boundary.doesNothing(d -> d.best(0, 1));
+  }
+
   // ---- promise 36 ----
 
   @Sentence("How much greater COST of the PICTURE were, were a DOT taken (those left do not move)")
@@ -175,6 +181,11 @@ final class CostBoundaries {
     due(dots.loss(0), 2223);
   }
 
+  @Sentence("How much greater COST of the PICTURE were, were a DOT taken (those left do not move)")
+  static void promise36LossDoesNothing() {
+    Boundary.doesNothing(d -> d.loss(0));
+  }
+
   @Sentence("NONE if there is none such, or it is the only one.")
   static void promise36TheOnlyDotIsNone() {
     due(Boundary.of("row 123;dot 1 1;").loss(0), NONE);
@@ -206,6 +217,11 @@ final class CostBoundaries {
       text.append("dot").append(i % 20).append(' ').append(i / 20).append(';');
     }
     due(Boundary.of(text.toString()).idle(), 39);
+  }
+
+  @Sentence("The DOT with the least loss(), of like ones the first")
+  static void promise37IdleDoesNothing() {
+    Boundary.doesNothing(d -> d.idle());
   }
 
   @Sentence("NONE if there are not two.")
@@ -270,6 +286,12 @@ final class CostBoundaries {
     due(dots.cell(2, 0, 2), 1);
     due(dots.about(4), 78959);
     more(dots, 0, 41327);
+  }
+
+  @Sentence(MORE)
+  static void promise38MoreDoesNothing() {
+    Boundary.doesNothing(d -> d.more(0));
+    Boundary.doesNothing(d -> d.more(1));
   }
 
   @Sentence("NONE without DOTS, or for another what.")

@@ -5,7 +5,7 @@ import java.util.regex.Pattern;
 
 /** Reads a picture for the Oracle: all tokens first, by patterns, then the lines. */
 final class OracleReader {
-  private static final Pattern TOKEN = Pattern.compile("[ \n]*([a-z]+|[0-9]+|;|$|.)", Pattern.DOTALL);
+  private static final Pattern TOKEN = Pattern.compile("[ \n]*([a-z]+|[0-9]+|;|\\z|.)", Pattern.DOTALL);
 
   int fault = 0;
   int place = -1;

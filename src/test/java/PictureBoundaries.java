@@ -1,3 +1,5 @@
+import java.util.List;
+
 /** Boundary cases of promise 4, and of the words of PICTURE that can be told without a FAULT. */
 final class PictureBoundaries {
   private static final int NONE = Boundary.NONE;
@@ -283,10 +285,10 @@ final class PictureBoundaries {
 
   private static void staysAtAFault(SettledDots dots, String text) {
     dots.end(0);
-    java.util.List<Integer> ahead = Boundary.state(dots);
+    List<Integer> ahead = Boundary.state(dots);
     Check.tape(dots, text);
     due(dots.picture(), NONE);
-    java.util.List<Integer> then = Boundary.state(dots);
+    List<Integer> then = Boundary.state(dots);
     // All but the last two, which are the FAULT and its place.
     int same = ahead.size() - 2;
     Boundary.due(then.size() == ahead.size()

@@ -514,14 +514,6 @@ final class RoundBoundaries {
     Boundary.none(new SettledDots().step(0));
   }
 
-  private static void doesNothing(Consumer<SettledDots> ask) {
-    for (SettledDots dots : List.of(Boundary.ladenWithSteps(), Boundary.ladenWithRedo())) {
-      List<Integer> ahead = Boundary.state(dots);
-      ask.accept(dots);
-      due(Boundary.state(dots).equals(ahead), true);
-    }
-  }
-
   // ---- promise 33 ----
 
   @Sentence("How many DOTS would MOVE by a ROUND; NONE if there are none.")
@@ -546,12 +538,12 @@ final class RoundBoundaries {
 
   @Sentence("(Nothing is done; so below.)")
   static void promise33MovesDoesNothing() {
-    doesNothing(d -> d.moves());
+    Boundary.doesNothing(d -> d.moves());
   }
 
   @Sentence("How far away a DOT would be from where it is after a ROUND, squared, a thousand times, cut")
   static void promise32StepDoesNothing() {
-    doesNothing(d -> d.step(0));
+    Boundary.doesNothing(d -> d.step(0));
   }
 
   // ---- promise 34 ----
@@ -614,8 +606,8 @@ final class RoundBoundaries {
 
   @Sentence("How many ROUNDS till all is STILL (that one, too; 1 .. 200) what 0, COST of the PICTURE then, 1")
   static void promise34TillDoesNothing() {
-    doesNothing(d -> d.till(0));
-    doesNothing(d -> d.till(1));
+    Boundary.doesNothing(d -> d.till(0));
+    Boundary.doesNothing(d -> d.till(1));
   }
 
   // ---- promise 35 ----
