@@ -386,6 +386,16 @@ final class BoxBoundaries {
   }
 
   @Sentence("All is as it was kept (no ACTS are kept then): likewise")
+  static void promise43BytesOnTheTapeAreNotKept() {
+    SettledDots dots = Boundary.of(Boundary.LADEN);
+    dots.feed(0, 0, 0, 0, 0);
+    dots.image(0);
+    dots.feed(0, 0, 0, 0, 0);
+    due(dots.back(0), 2);
+    due(dots.about(9), 40);
+  }
+
+  @Sentence("All is as it was kept (no ACTS are kept then): likewise")
   static void promise43BoxesStayThen() {
     SettledDots dots = Boundary.of(Boundary.LADEN);
     dots.image(0);

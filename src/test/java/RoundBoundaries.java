@@ -741,6 +741,22 @@ final class RoundBoundaries {
   }
 
   @Sentence("none behind any other ACT, UNDO, REDO, picture(), back()")
+  static void promise35TheyStayBehindWhatIsNoneOfThese() {
+    SettledDots dots = behindARound(PAIR);
+    dots.seed(5);
+    dots.image(0);
+    dots.image(1);
+    dots.feed(0, 0, 0, 0, 0);
+    dots.end(0);
+    dots.put(4, 0);
+    dots.redo();
+    dots.back(2);
+    due(dots.steps(NONE, 0), 1);
+    due(dots.steps(0, 0), 2);
+    due(dots.steps(0, 1), 2000);
+  }
+
+  @Sentence("none behind any other ACT, UNDO, REDO, picture(), back()")
   static void promise35OneBehindAnActAndARound() {
     SettledDots dots = behindARound(PAIR);
     dots.rounds(1);

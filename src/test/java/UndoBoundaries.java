@@ -25,23 +25,42 @@ final class UndoBoundaries {
     return dots;
   }
 
-  /** An act is one ACT; UNDO gives the picture ahead of it, REDO the one behind it. */
-  private static void isOneAct(Consumer<SettledDots> act) {
+  /**
+   * An act is one ACT; UNDO gives the picture ahead of it, REDO the one behind it. None of them touches
+   * the seed (but a draw), the boxes, the tape or the latest FAULT.
+   */
+  private static void isOneAct(int seedThen, Consumer<SettledDots> act) {
     SettledDots dots = Boundary.of(Boundary.LADEN);
+    Check.tape(dots, "row 1;?");
+    dots.picture();
     dots.seed(77);
+    dots.image(1);
+    dots.feed(1, 2, 3, 4, 5);
     List<Integer> ahead = Boundary.picture(dots);
     act.accept(dots);
     List<Integer> behind = Boundary.picture(dots);
+    due(dots.about(6), seedThen);
     due(dots.about(7), 1);
+    due(dots.about(8), 0);
     due(ahead.equals(behind), false);
     due(dots.undo(), true);
     due(Boundary.picture(dots).equals(ahead), true);
+    due(dots.against(1, 0) + dots.against(1, 1) + dots.against(1, 2), 0);
     due(dots.about(7), 0);
     due(dots.about(8), 1);
     due(dots.redo(), true);
     due(Boundary.picture(dots).equals(behind), true);
     due(dots.about(7), 1);
     due(dots.about(8), 0);
+    due(dots.about(9), 20);
+    due(dots.fault(0), 1);
+    due(dots.fault(1), 6);
+    due(dots.back(1), 2);
+    due(Boundary.picture(dots).equals(ahead), true);
+  }
+
+  private static void isOneAct(Consumer<SettledDots> act) {
+    isOneAct(77, act);
   }
 
   // ---- each act ----
@@ -66,7 +85,8 @@ final class UndoBoundaries {
 
   @Sentence(ACTS)
   static void promise09DrawOfSeveralDotsIsOneAct() {
-    isOneAct(d -> d.draw(3));
+    // Three times: times 1103515245, more by 12345, the rest by 2147483648.
+    isOneAct(1289087568, d -> d.draw(3));
   }
 
   @Sentence(ACTS)
