@@ -152,6 +152,13 @@ final class BoxBoundaries {
   }
 
   @Sentence("1: by how much (more DOTS: above 0)")
+  static void promise40DotBetweenCellsIsWhereItsSpotIs() {
+    SettledDots dots = Boundary.of("size 2 1;row 11;dot 1 0;");
+    dots.rounds(1);
+    uneven(dots, 1, 0, 1);
+  }
+
+  @Sentence("1: by how much (more DOTS: above 0)")
   static void promise40WithoutDotsOrWithoutWeightsNothingIsUneven() {
     uneven(Boundary.of("size 3 2;row 123;"), 1, 0, 0);
     uneven(Boundary.of("size 3 2;dot 2 1;"), 1, 0, 0);
