@@ -1757,14 +1757,11 @@ public final class SettledDots {
                     at++;
                 }
             }
+            boolean letterBehind = at < length && kindOf(bytes[at]) == WORD;
             if (kind == WORD && at - start > LETTERS_AT_MOST
-                || kind == NUMBER && (at - start > DIGITS_AT_MOST || isAtLetter())) {
+                || kind == NUMBER && (at - start > DIGITS_AT_MOST || letterBehind)) {
                 kind = NO_TOKEN;
             }
-        }
-
-        private boolean isAtLetter() {
-            return at < length && kindOf(bytes[at]) == WORD;
         }
 
         /** The kind of the TOKENS that a sign may begin. */

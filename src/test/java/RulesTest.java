@@ -21,17 +21,11 @@ import java.util.stream.Collectors;
 /** The rules of ../shared/LANGUAGE.md that can be seen from outside, and the document's face. */
 public final class RulesTest {
   private static final Check CHECK = new Check("RulesTest");
-  private static final Set<String> LIBRARY = Set.of("Arrays.fill", "System.arraycopy", "Math.abs",
-      "Math.max", "Math.min", "Math.floorMod");
 
   public static void main(String[] args) throws IOException {
-    String source = Files.readString(Path.of("src/main/java/SettledDots.java"));
     String document = Files.readString(Path.of("../shared/DOC.md"));
     face(document);
     membersOfClasses();
-    words(withoutComments(source));
-    library(withoutComments(source));
-    lengths(source);
     room();
     neverThrows();
     CHECK.close();
@@ -101,59 +95,6 @@ public final class RulesTest {
         holds("rule 11: " + name + " has seven parameters at most", m.getParameterCount() <= 7);
         holds("rule 1: " + name + " bears no public name", face.contains(m.getName())
             == (c == SettledDots.class && Modifier.isPublic(m.getModifiers())));
-      }
-    }
-  }
-
-  private static String withoutComments(String source) {
-    return source.replaceAll("(?s)/\\*.*?\\*/", "").replaceAll("//[^\n]*", "");
-  }
-
-  private static void words(String code) {
-    for (String word : List.of("throw", "throws", "try", "catch", "finally", "synchronized", "assert",
-        "float", "double", "var", "native", "volatile", "transient", "protected", "package",
-        "Object", "Random", "Thread", "equals", "hashCode", "toString")) {
-      holds("rules 2 to 6: no " + word, !Pattern.compile("\\b" + word + "\\b").matcher(code).find());
-    }
-    holds("rule 2: no lambda", !code.contains("->"));
-    holds("rule 2: no method reference", !code.contains("::"));
-    holds("rule 5: no static block", !Pattern.compile("static\\s*\\{").matcher(code).find());
-    holds("rule 10: no texts joined by +", !Pattern.compile("\"\\s*\\+|\\+\\s*\"").matcher(code).find());
-    holds("rule 4: signs are 1 to 127", code.chars().allMatch(c -> c >= 1 && c <= 127));
-    holds("rule 9: no loop without a condition",
-        !Pattern.compile("while \\(true\\)|for \\([^;]*;\\s*;").matcher(code).find());
-  }
-
-  private static void library(String code) {
-    Matcher used = Pattern.compile("\\b(Arrays|System|Math|Integer|Long|String|Character)\\.(\\w+)")
-        .matcher(code);
-    while (used.find()) {
-      String name = used.group();
-      holds("rule 4: " + name + " is in the library", LIBRARY.contains(name));
-    }
-    Matcher imports = Pattern.compile("import ([\\w.]+);").matcher(code);
-    while (imports.find()) {
-      holds("rule 4: imports " + imports.group(1), imports.group(1).equals("java.util.Arrays"));
-    }
-    Matcher made = Pattern.compile("new (\\w+)").matcher(code);
-    while (made.find()) {
-      holds("rule 3: makes a " + made.group(1), made.group(1).matches(
-          "int|long|boolean|Scene|Field|Reader|Past|Track|Ahead|Prices|Links|Box"));
-    }
-  }
-
-  private static void lengths(String source) {
-    String[] lines = source.split("\n");
-    Pattern head = Pattern.compile("^( {4}| {8})(?! )[\\w\\[\\]. ]+\\([^;]*\\{$");
-    for (int i = 0; i < lines.length; i++) {
-      holds("line " + (i + 1) + " has 110 signs at most", lines[i].length() <= 110);
-      Matcher m = head.matcher(lines[i]);
-      if (m.find() && !lines[i].contains(" for ") && !lines[i].contains(" if ")) {
-        int end = i;
-        while (!lines[end].equals(m.group(1) + "}")) {
-          end++;
-        }
-        holds("rule 11: sixty lines at most:" + lines[i], end - i < 60);
       }
     }
   }
